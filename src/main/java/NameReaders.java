@@ -16,7 +16,7 @@ public final class NameReaders {
     /** Names by bits, when each of them may still come. */
     private static final int ALL = -1;
     private static final int SHAPE_PAIRS = 6, PARTED_PAIRS = 5;
-    /** Of no more than six names it is known at once that they have come and come again: 6 states, 7 * 7 * 7. */
+    /** A register is empty or has one of six names at most that come again (Walks.giveSlots). */
     private static final int LIVE = 7, LEDGER = STATES * LIVE * LIVE * LIVE;
 
     private final Reader zero = new Reader();

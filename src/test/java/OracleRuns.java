@@ -8,6 +8,7 @@ public final class OracleRuns {
     private static int answers = 0;
     private static List<String> calls = new ArrayList<>();
     private static final String SIGNS = " 0129;abckeptowisany\0\u00ffA{/:`";
+    private static final int[] EDGES = {Integer.MIN_VALUE, Integer.MAX_VALUE, Integer.MIN_VALUE + 1, 1 << 30, -1, 1000000001};
     private static final int[] SEEN = new int[26];
 
     private final Random random;
@@ -24,7 +25,7 @@ public final class OracleRuns {
         registers = random.nextInt(4);
         moves = 1 + random.nextInt(big ? 20 : 10);
         letters = 1 + random.nextInt(3);
-        names = 1 + random.nextInt(5);
+        names = 1 + random.nextInt(big ? 12 : 5);
     }
 
     public static void main(String[] args) {
@@ -65,10 +66,12 @@ public final class OracleRuns {
     }
 
     private int small(int most) {
+        if (random.nextInt(60) == 0) return EDGES[random.nextInt(EDGES.length)];
         return random.nextInt(8) == 0 ? random.nextInt(most + 4) - 2 : random.nextInt(most + 1);
     }
 
     private int either() {
+        if (random.nextInt(200) == 0) return EDGES[random.nextInt(EDGES.length)];
         return random.nextInt(25) == 0 ? random.nextInt(5) - 2 : random.nextInt(2);
     }
 
@@ -127,7 +130,7 @@ public final class OracleRuns {
     }
 
     private int nameOf(int i) {
-        return new int[] {1, 99, 0, 7, 42}[i];
+        return new int[] {1, 99, 0, 7, 42, 2, 98, 3, 5, 11, 13, 70}[i];
     }
 
     private String spoiled(String text) {
