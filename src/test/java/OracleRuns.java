@@ -76,12 +76,16 @@ public final class OracleRuns {
     }
 
     private String oneMove(int s, int r) {
+        return moveBetween(random.nextInt(s), random.nextInt(s), r);
+    }
+
+    private String moveBetween(int from, int to, int r) {
         StringBuilder b = new StringBuilder();
-        b.append(random.nextInt(s)).append(blank()).append("abc".charAt(random.nextInt(letters)));
+        b.append(from).append(blank()).append("abc".charAt(random.nextInt(letters)));
         int test = random.nextInt(r > 0 ? 4 : 2);
         b.append(' ').append(test == 0 ? "new" : test == 1 ? "any" : "is" + blank() + random.nextInt(r)).append(' ');
         if (r > 0 && random.nextInt(2) == 0) b.append("keep").append(blank()).append(random.nextInt(r)).append(blank());
-        return b.append("to").append(blank()).append(random.nextInt(s)).toString();
+        return b.append("to").append(blank()).append(to).toString();
     }
 
     private String blank() {
@@ -101,7 +105,23 @@ public final class OracleRuns {
     private void makeReader(int reader) {
         int s = states, r = registers, t = random.nextInt(1 << s);
         due(0, 0, "reader(" + reader + ", " + s + ", " + r + ", " + t + ")", x.reader(reader, s, r, t), oracle.reader(reader, s, r, t));
-        addMoves(reader, moves);
+        if (random.nextBoolean()) {
+            addMoves(reader, moves);
+        } else {
+            addChain(reader);
+        }
+    }
+
+    /** Moves from each state to the next, the last state taking: rows that are taken have to be long. */
+    private void addChain(int reader) {
+        int s = states, r = registers, t = 1 << s - 1;
+        due(0, 0, "reader(" + reader + ", " + s + ", " + r + ", " + t + ")", x.reader(reader, s, r, t), oracle.reader(reader, s, r, t));
+        due(0, 2, "erase()", x.erase(), oracle.erase());
+        for (int i = 0; i < s - 1 || i < moves; i++) {
+            int from = random.nextInt(s);
+            writeText(i < s - 1 ? moveBetween(i, i + 1, r) : moveBetween(from, random.nextInt(from + 1), r));
+            due(0, 4, "moves(" + reader + ")", x.moves(reader), oracle.moves(reader));
+        }
     }
 
     private void addMoves(int reader, int n) {
@@ -257,8 +277,8 @@ public final class OracleRuns {
                 due(seed, 19, "twofold(" + r + ")", x.twofold(r), oracle.twofold(r));
                 return;
             case 21:
-                // the Oracle has every name in every register: too many for more than four of them
-                if (oracle.machines[0].registers + oracle.machines[1].registers > 4) return;
+                // the Oracle has every name in every register: too many for more than four of them, where moves are many
+                if (oracle.machines[0].registers + oracle.machines[1].registers > 4 && x.count(4) + x.count(5) > 12) return;
                 due(seed, 20, "both()", x.both(), oracle.both());
                 return;
             default:
