@@ -189,6 +189,12 @@ public final class Promises {
         faultOf(x, 0, "0 aany to 0", 2);
         faultOf(x, 0, "0 a anyto 0", 4);
         faultOf(x, 0, "0 a an y to 0", 4);
+        faultOf(x, 0, "0 az any to 0", 2);
+        faultOf(x, 0, "0 a{ any to 0", 3);
+        faultOf(x, 0, "0 a` any to 0", 3);
+        faultOf(x, 0, "0 a any to 09", 11);
+        faultOf(x, 0, "0 a any to 0:", 12);
+        faultOf(x, 0, "0/a any to 0", 1);
         faultOf(x, 0, "0 a is to 0", 7);
         faultOf(x, 0, "0 a is", 6);
         faultOf(x, 0, "0 a is ", 7);
@@ -425,6 +431,15 @@ public final class Promises {
         due("none", x.runs(1), 0);
         x.change(11, 2, 1);
         due("10^11", x.runs(1), MANY);
+        // twelve names; names that do not come again, ahead of two that do
+        make(x, 1, 1, 2, 1, "0 a any keep 0 to 0", "0 a any keep 0 to 0", "0 a any keep 1 to 0", "0 c any keep 0 to 0", "0 c any keep 1 to 0",
+            "0 b is 0 to 0", "0 b is 1 to 0");
+        row(x, "a0 c1 a2 a3 a4 a5 a6 a7 a8 a9 a10 a11");
+        due("2 * 3^11", x.runs(1), 2 * 177147);
+        row(x, "a1 a2 a3 a4 a5 a6 c7 b6 b7");
+        due("243 * (2 + 1)", x.runs(1), 729);
+        row(x, "a1 b1 a2 b2 a3 b3 a4 b4 a5 b5 a6 b6");
+        due("3^6, and both registers cannot have it", x.runs(1), 729);
         // six names that come again at once, in all registers
         make(x, 1, 1, 3, 1, "0 a any keep 0 to 0", "0 a any keep 1 to 0", "0 a any keep 2 to 0", "0 b is 0 to 0", "0 b is 1 to 0", "0 b is 2 to 0");
         row(x, "a1 a2 a3 a4 a5 a6 b1 b2 b3 b4 b5 b6");
@@ -476,6 +491,10 @@ public final class Promises {
         make(x, 0, 2, 1, 2, "0 a any keep 0 to 1", "1 a new to 1");
         due("the first name comes once", x.shapes(0, 4, 1), 5);
         due("n = 0", x.shapes(0, 0, 3), 0);
+        make(x, 0, 5, 3, 16, "0 a any keep 0 to 1", "1 a any keep 1 to 2", "2 a any keep 2 to 3", "3 b new to 4");
+        due("new to three registers: a0 a0 a0 b1, 3 with b2, one with b3", x.shapes(0, 4, 2), 5);
+        make(x, 0, 5, 3, 16, "0 a any keep 2 to 1", "1 a any keep 1 to 2", "2 a any keep 0 to 3", "3 b is 1 to 4");
+        due("the second name", x.shapes(0, 4, 2), 5);
         // two runs on one shape count once
         make(x, 0, 1, 1, 1, "0 a any keep 0 to 0", "0 a any to 0", "0 a is 0 to 0");
         due("once", x.shapes(0, 3, 3), 5);
@@ -547,6 +566,10 @@ public final class Promises {
         make(x, 0, 3, 1, 4, "0 a any keep 0 to 1", "1 b is 0 to 2", "1 a new to 2");
         due("a0", x.first(0, 0), 0);
         due("a1", x.first(0, 1), 1);
+        // a run that does not keep has the first end
+        make(x, 0, 4, 1, 8, "0 a any keep 0 to 1", "0 a any to 2", "1 b is 0 to 3", "2 a any to 3");
+        due("a0", x.first(0, 0), 0);
+        due("a0", x.first(0, 1), 0);
         makeRounds(x, 4);
         int[] want = {0, 0, 0, 0, 0, 0, 0, 16, 0, 0, 0, 32};
         for (int k = 0; k < 12; k++) due("round " + k, x.first(0, k), want[k]);
@@ -567,6 +590,8 @@ public final class Promises {
         write(x, "0 a any to 0");
         x.moves(1);
         due("nothing takes", x.useless(1), 1);
+        make(x, 0, 3, 0, 4, "0 a any to 1", "1 a any to 0", "0 b any to 2");
+        due("back to where it began", x.useless(0), 0);
         // in a run that takes, though behind more than twelve pairs
         makeRounds(x, 5);
         due("none", x.useless(0), 0);
@@ -618,6 +643,12 @@ public final class Promises {
         due("3 + 4 n and 4 + 5 n", x.both(), NONE);
         make(x, 1, 5, 3, 8, "0 a new keep 0 to 1", "1 a new keep 1 to 2", "2 a new keep 2 to 3", "3 b is 0 to 0");
         due("3", x.both(), 3);
+        // six names in six registers, then the first of them
+        make(x, 0, 6, 3, 16, "0 a new keep 0 to 1", "1 a new keep 1 to 2", "2 a new keep 2 to 3", "3 b new to 3", "3 c any to 5", "5 c is 0 to 4");
+        make(x, 1, 6, 3, 16, "0 a any to 0", "0 b new keep 0 to 1", "1 b new keep 1 to 2", "2 b new keep 2 to 3", "3 c any to 5", "5 c new to 4");
+        due("a0 a1 a2 b3 b4 b5 c c0", x.both(), 8);
+        x.drop(1, 5);
+        due("never behind the last", x.both(), NONE);
     }
 
     private static void parted() {
@@ -770,6 +801,14 @@ public final class Promises {
         due("two are alike", x.mend(0), 10);
         make(x, 0, 1, 0, 1, "0 c any to 0");
         due("all", x.mend(0), 12);
+        // the tenth has to be another, so it has the name of the twelfth; the eleventh has to be new
+        make(x, 0, 4, 1, 8, "0 c any to 0", "0 a any keep 0 to 1", "1 b new to 2", "2 a is 0 to 3");
+        row(x, "c0 c1 c2 c3 c4 c5 c6 c7 c8 c9 a10 a11");
+        due("two of twelve", x.mend(0), 2);
+        // an empty register has no name that a pair could get
+        make(x, 0, 2, 2, 2, "0 a any keep 0 to 0", "0 b is 1 to 1");
+        row(x, "a1 b1");
+        due("never", x.mend(0), NONE);
     }
 
     private static void count() {
