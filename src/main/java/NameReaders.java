@@ -91,10 +91,7 @@ public final class NameReaders {
         if (known.size() + text.found() > MOVES) {
             return FULL;
         }
-        for (int i = 0; i < text.found(); i++) {
-            known.append(text.told(), i * PARTS);
-        }
-        known.sort();
+        known.appendAll(text.told(), text.found());
         text.wipe();
         return known.size();
     }
@@ -352,13 +349,13 @@ public final class NameReaders {
             sort();
         }
 
-        /** The order is right again when sort() has been called. */
-        void append(int[] told, int at) {
-            if (size >= MOVES || at < 0 || at + PARTS > told.length) {
+        void appendAll(int[] told, int many) {
+            if (many < 0 || many > MOVES - size || many * PARTS > told.length) {
                 return;
             }
-            System.arraycopy(told, at, parts, size * PARTS, PARTS);
-            size++;
+            System.arraycopy(told, 0, parts, size * PARTS, many * PARTS);
+            size += many;
+            sort();
         }
 
         void remove(int move) {
@@ -371,7 +368,7 @@ public final class NameReaders {
             sort();
         }
 
-        void sort() {
+        private void sort() {
             int next = 0;
             for (int place = 0; place < STATES * LETTERS; place++) {
                 begins[place] = next;
@@ -1114,7 +1111,7 @@ public final class NameReaders {
         private static final int OTHER = PAIRS + 1, FRESH = OTHER + 1;
         private Spots now;
         private Spots next;
-        /** Sixteen costs in each number. */
+        /** Sixteen costs in each number: SPOTS / 16 are fewer than LEDGER. */
         private long[] costs;
         private long[] costsNext;
 
@@ -1299,8 +1296,12 @@ public final class NameReaders {
         /** The last pairs with which a row is taken: letters, and for each the names 0 .. used, by bits in their order. */
         private int endings(Reader one, Spots spots, int used) {
             int all = (2 << used) - 1;
+            int every = 0;
+            for (int letter = 0; letter < letters; letter++) {
+                every |= all << letter * NAME_BITS;
+            }
             int bits = 0;
-            for (int spot = spots.next(0), left = spots.size(); left > 0 && spot >= 0; left--) {
+            for (int spot = spots.next(0), left = spots.size(); left > 0 && spot >= 0 && bits != every; left--) {
                 for (int letter = 0; letter < letters; letter++) {
                     int end = one.end(spot, letter);
                     for (int k = one.begin(spot, letter); k < end; k++) {
