@@ -399,6 +399,15 @@ public final class NameReaders {
             return order[place];
         }
 
+        boolean hasTest(int letter, int least, int most) {
+            for (int move = 0; move < size; move++) {
+                if (part(move, LETTER) == letter && part(move, TEST) >= least && part(move, TEST) <= most) {
+                    return true;
+                }
+            }
+            return false;
+        }
+
         boolean takesSome(int statesByBits) {
             return (takes & statesByBits) != 0;
         }
@@ -1104,11 +1113,14 @@ public final class NameReaders {
     }
 
     /**
-     * The fewest pairs to be changed. A name in a register that the rest of the row does not tell is OTHER: a changed
+     * The fewest pairs to be changed. A name in a register for which no pair ahead can be tested is OTHER: a changed
      * pair can always have it, or one that is new, so that more need not be known of it.
      */
     private static final class Mender {
         private static final int OTHER = PAIRS + 1, FRESH = OTHER + 1;
+        /** By bits, the names for which pairs behind so many can be tested, and those that a register may be asked for. */
+        private final int[] alive = new int[PAIRS + 1];
+        private final int[] wanted = new int[PAIRS + 1];
         private Spots now;
         private Spots next;
         /** Sixteen costs in each number: SPOTS / 16 are fewer than LEDGER. */
@@ -1123,6 +1135,7 @@ public final class NameReaders {
         }
 
         int fewest(Reader reader, Row row) {
+            survey(reader, row);
             now.startAt(0);
             setCost(costs, 0, 0);
             for (int i = 0; i < row.size(); i++) {
@@ -1144,6 +1157,17 @@ public final class NameReaders {
             return best;
         }
 
+        private void survey(Reader reader, Row row) {
+            alive[row.size()] = 1;
+            wanted[row.size()] = 0;
+            for (int i = row.size() - 1; i >= 0; i--) {
+                boolean asked = reader.hasTest(row.letter(i), 0, REGISTERS - 1);
+                boolean tested = asked || reader.hasTest(row.letter(i), NEW, NEW);
+                wanted[i] = wanted[i + 1] | (asked ? 1 << row.id(i) : 0);
+                alive[i] = alive[i + 1] | (tested ? 1 << row.id(i) : 0);
+            }
+        }
+
         private void turn() {
             Spots spent = now;
             now = next;
@@ -1155,44 +1179,43 @@ public final class NameReaders {
 
         private void spread(Reader reader, Row row, int i, int spot) {
             int cost = costOf(costs, spot);
-            int alive = row.aliveBehind(i + 1);
             for (int letter = 0; letter < LETTERS; letter++) {
                 int end = reader.end(spot, letter);
                 for (int k = reader.begin(spot, letter); k < end; k++) {
                     int move = reader.moveAt(k);
                     if (letter == row.letter(i)) {
-                        come(reader.after(spot, move, row.id(i)), alive, cost);
+                        come(reader.after(spot, move, row.id(i)), i + 1, cost);
                     }
-                    spreadChanged(reader, spot, move, alive, cost + 1);
+                    spreadChanged(reader, spot, move, i + 1, cost + 1);
                 }
             }
         }
 
-        private void spreadChanged(Reader reader, int spot, int move, int alive, int cost) {
+        private void spreadChanged(Reader reader, int spot, int move, int behind, int cost) {
             int test = reader.part(move, TEST);
             if (test < NEW) {
                 int name = Reader.heldIn(spot, test);
                 if (name > 0) {
-                    come(reader.after(spot, move, name), alive, cost);
+                    come(reader.after(spot, move, name), behind, cost);
                 }
                 return;
             }
-            come(reader.after(spot, move, FRESH), alive, cost);
+            come(reader.after(spot, move, FRESH), behind, cost);
             if (reader.part(move, KEEPS) < 0) {
                 return;
             }
             for (int name = 1; name < OTHER; name++) {
-                if ((alive >> name & 1) != 0) {
-                    come(reader.after(spot, move, name), alive, cost);
+                if ((wanted[behind] >> name & 1) != 0) {
+                    come(reader.after(spot, move, name), behind, cost);
                 }
             }
         }
 
-        private void come(int to, int alive, int cost) {
+        private void come(int to, int behind, int cost) {
             if (to < 0) {
                 return;
             }
-            int spot = Reader.settle(to, alive, OTHER);
+            int spot = Reader.settle(to, alive[behind], OTHER);
             if (next.add(spot) || cost < costOf(costsNext, spot)) {
                 setCost(costsNext, spot, cost);
             }
