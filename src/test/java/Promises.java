@@ -1,55 +1,5 @@
 /** Each promise by itself: ordinary calls, the edges that the document names, wrong ones. The answers are worked out by hand. */
-public final class Promises {
-    private static final int NONE = -1, UNKNOWN = -2, OUTSIDE = -3, NOT = -4, FULL = -5, MANY = 1000000001;
-    private static int passed = 0;
-    private static int failed = 0;
-    private static int promise = 0;
-
-    private static void due(String call, long got, long want) {
-        if (got == want) {
-            passed++;
-        } else {
-            failed++;
-            System.out.println("promise " + promise + ": " + call + " answered " + got + ", due is " + want);
-        }
-    }
-
-    private static int write(NameReaders x, String text) {
-        int answer = x.count(3);
-        for (int i = 0; i < text.length(); i += 8) {
-            int n = Math.min(8, text.length() - i);
-            long bytes = 0;
-            for (int j = 0; j < n; j++) bytes |= (long) text.charAt(i + j) << 8 * j;
-            answer = x.write(bytes, n);
-        }
-        return answer;
-    }
-
-    /** A reader of one's own, its moves told one by one. */
-    private static void make(NameReaders x, int reader, int states, int registers, int takes, String... moves) {
-        x.erase();
-        due("reader", x.reader(reader, states, registers, takes), 1);
-        for (int i = 0; i < moves.length; i++) {
-            write(x, moves[i]);
-            due("moves of " + moves[i], x.moves(reader), i + 1);
-        }
-    }
-
-    /** Pairs such as a7 b7 c99, ? being a gap. */
-    private static void row(NameReaders x, String pairs) {
-        x.hush();
-        for (String pair : pairs.split(" ")) {
-            if (pair.isEmpty()) continue;
-            x.pair("?abc".indexOf(pair.charAt(0)) - 1, pair.charAt(1) == '?' ? -1 : Integer.parseInt(pair.substring(1)));
-        }
-    }
-
-    private static void faultOf(NameReaders x, int reader, String text, int want) {
-        x.erase();
-        write(x, text);
-        due("fault of '" + text + "'", x.fault(reader), want);
-    }
-
+public final class Promises extends Bench {
     public static void main(String[] args) {
         promise = 1; newObject();
         promise = 2; reader();
@@ -78,8 +28,7 @@ public final class Promises {
         promise = 25; filled();
         promise = 26; mend();
         promise = 27; count();
-        System.out.println(passed + " passed, " + failed + " failed");
-        if (failed != 0) System.exit(1);
+        end();
     }
 
     private static void newObject() {
@@ -403,9 +352,7 @@ public final class Promises {
         row(x, "a1 a2 a?");
         due("gap", x.runs(0), NOT);
         // 20 moves at each of 12 pairs
-        String[] all = new String[20];
-        java.util.Arrays.fill(all, "0 a any to 0");
-        make(x, 1, 1, 0, 1, all);
+        make(x, 1, 1, 0, 1, times(20, "0 a any to 0"));
         row(x, "a1 a1 a1 a1 a1 a1");
         due("20^6", x.runs(1), 64000000);
         x.pair(0, 2);
@@ -523,17 +470,6 @@ public final class Promises {
         due("l", x.shape(0, 2, 4, 0, 0), OUTSIDE);
         due("l", x.shape(0, 2, 0, 0, 0), OUTSIDE);
         due("no such", x.shape(2, 9, 9, -1, -1), UNKNOWN);
-    }
-
-    /** Goes round and has to keep a name in each round: length 3 rounds of so many pairs. */
-    private static void makeRounds(NameReaders x, int pairs) {
-        int s = pairs - 1;
-        String[] all = new String[s + 3];
-        for (int i = 0; i < s; i++) all[i] = i + " a any to " + (i + 1);
-        all[s] = s + " a new keep 0 to 0";
-        all[s + 1] = s + " b is 0 keep 1 to 0";
-        all[s + 2] = s + " c is 1 to " + pairs;
-        make(x, 0, pairs + 1, 2, 1 << pairs, all);
     }
 
     private static void least() {
