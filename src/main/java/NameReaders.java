@@ -16,7 +16,7 @@ public final class NameReaders {
     /** Names by bits, when each of them may still come. */
     private static final int ALL = -1;
     private static final int SHAPE_PAIRS = 6, PARTED_PAIRS = 5;
-    /** A register is empty or has one of six names at most that come again (Walks.giveSlots). */
+    /** A register is empty or has one of six names that come again (Walks.giveSlots). */
     private static final int LIVE = 7, LEDGER = STATES * LIVE * LIVE * LIVE;
 
     private final Reader zero = new Reader();
@@ -846,7 +846,7 @@ public final class NameReaders {
     private static final class Walks {
         private final Spots[] sets;
         private final int[] path = new int[PAIRS];
-        /** For each name, a number below LIVE that no other name has while it may come again. */
+        /** For each name that comes again, a number below LIVE of its own. */
         private final int[] slots = new int[PAIRS + 1];
         private long[] ways;
         private long[] waysNext;
@@ -955,28 +955,19 @@ public final class NameReaders {
             return place;
         }
 
-        /** Behind k of n pairs, at most min(k, n - k) names have come that come again: six, with twelve pairs. */
+        /** Names that come once alone are settled as soon as they have come; of twelve pairs, six names can come twice. */
         private void giveSlots(Row row) {
-            int busy = 1;
-            int known = 1;
-            slots[0] = 0;
+            int known = 0;
+            int many = 0;
             for (int i = 0; i < row.size(); i++) {
                 int name = row.id(i);
-                boolean again = (row.aliveBehind(i + 1) >> name & 1) != 0;
-                if ((known >> name & 1) == 0) {
-                    known |= 1 << name;
-                    slots[name] = again ? freeSlot(busy) : 0;
+                if (name > known) {
+                    known = name;
+                    boolean again = (row.aliveBehind(i + 1) >> name & 1) != 0;
+                    many += again ? 1 : 0;
+                    slots[name] = again ? Math.min(many, LIVE - 1) : 0;
                 }
-                busy = again ? busy | 1 << slots[name] : busy & ~(1 << slots[name]) | 1;
             }
-        }
-
-        private static int freeSlot(int busy) {
-            int slot = 1;
-            while (slot < LIVE - 1 && (busy >> slot & 1) != 0) {
-                slot++;
-            }
-            return slot;
         }
     }
 

@@ -33,6 +33,7 @@ public final class Boundaries extends Bench {
         promise = 25; filled();
         promise = 26; mend();
         promise = 27; count();
+        emptyAtFirst();
         promise = 14; namesThatComeAgain();
         promise = 18; eachRegister();
         promise = 21; registersAlike();
@@ -638,6 +639,11 @@ public final class Boundaries extends Bench {
         // the row with its gaps is no matter
         row(x, "?? ?? ?? ??");
         due("as before", x.shapes(0, 5, 1), 5);
+        // where a reader may be at several states, or have kept one name or another, each of them counts
+        make(x, 0, 4, 0, 8, "0 a any to 1", "0 a any to 2", "1 a any to 3", "2 b any to 3");
+        due("a0 a0, a0 a1, a0 b0, a0 b1", x.shapes(0, 2, 2), 4);
+        make(x, 0, 3, 1, 4, "0 a any to 0", "0 a any keep 0 to 1", "1 a any to 1", "1 b is 0 to 2");
+        due("a0 a0 b0, a0 a1 b0, a0 a1 b1", x.shapes(0, 3, 2), 3);
     }
 
     private static void shape() {
@@ -881,9 +887,14 @@ public final class Boundaries extends Bench {
         due("four", x.fillings(0), NOT);
         x.reader(0, 1, 0, 0);
         due("four, also where none takes", x.fillings(0), NOT);
-        x.hush();
         row(x, "??");
         due("none takes", x.fillings(0), 0);
+        // no letter but a, b, c
+        make(x, 0, 2, 0, 2, "0 c any to 1", "1 a any to 1");
+        row(x, "?0");
+        due("c0", x.fillings(0), 1);
+        row(x, "?0 ?0");
+        due("c0 a0", x.fillings(0), 1);
     }
 
     private static void filled() {
@@ -957,6 +968,14 @@ public final class Boundaries extends Bench {
             x.change(gap, 1, 0);
         }
         due("filled", x.mend(0), 10);
+        // the fewest of several ends, in whichever state
+        make(x, 0, 3, 0, 7, "0 a any to 0", "0 b any to 1", "0 c any to 2");
+        row(x, "a0");
+        due("state 0", x.mend(0), 0);
+        row(x, "b0");
+        due("state 1", x.mend(0), 0);
+        row(x, "c0");
+        due("state 2", x.mend(0), 0);
         // letter and name of one pair are one
         make(x, 0, 3, 1, 4, "0 a any keep 0 to 1", "1 b new to 2");
         row(x, "a0 a0");
@@ -991,6 +1010,53 @@ public final class Boundaries extends Bench {
         x.erase();
         int[] empty = {0, 0, 0, 0, 20, 19};
         for (int what = 0; what < 6; what++) due("empty " + what, x.count(what), empty[what]);
+    }
+
+    /** All registers are EMPTY where a row begins: in none of them is a name, and each name is new. */
+    private static void emptyAtFirst() {
+        for (int r = 0; r < 3; r++) {
+            NameReaders x = new NameReaders();
+            make(x, 0, 2, 3, 2, "0 a is " + r + " to 1");
+            atFirst(x, false);
+            due("a name that is in no register", x.useless(0), 1);
+        }
+        NameReaders x = new NameReaders();
+        make(x, 0, 2, 3, 2, "0 a is 0 to 0", "0 a is 1 to 0", "0 a is 2 to 0", "0 a new to 1");
+        atFirst(x, true);
+        due("the first three", x.useless(0), 7);
+        promise = 21;
+        due("one alone", x.twofold(0), NONE);
+        promise = 15;
+        row(x, "a0");
+        due("the fourth move", x.run(0, 0), 3);
+    }
+
+    /** What reader 0 answers, if it takes a0 in one way, or nothing at all. */
+    private static void atFirst(NameReaders x, boolean takes) {
+        int one = takes ? 1 : 0;
+        makeOpen(x, 1);
+        row(x, "a0");
+        promise = 12; due("taken", x.taken(0), one);
+        promise = 13; due("may", x.may(0, 1), 2 * one);
+        promise = 14; due("runs", x.runs(0), one);
+        promise = 15; due("run", x.run(0, 0) >= 0 ? 1 : 0, one);
+        promise = 16; due("shapes", x.shapes(0, 1, 3), one);
+        promise = 17; due("shape", x.shape(0, 1, 3, 0, 0), one - 1);
+        promise = 18; due("least", x.least(0), takes ? 1 : NONE);
+        promise = 19; due("first", x.first(0, 0), one - 1);
+        promise = 22; due("both", x.both(), takes ? 1 : NONE);
+        promise = 24; due("fillings", x.fillings(0), one);
+        promise = 25; due("filled", x.filled(0, 0), one - 1);
+        promise = 26; due("mend", x.mend(0), takes ? 0 : NONE);
+        x.change(0, -1, -1);
+        promise = 24; due("fillings", x.fillings(0), one);
+        promise = 25; due("filled", x.filled(0, 0), one - 1);
+        x.change(0, 2, 7);
+        promise = 26; due("mend", x.mend(0), takes ? 1 : NONE);
+        x.reader(1, 1, 0, 0);
+        promise = 23; due("parted", x.parted(5, -1), takes ? 1 : NONE);
+        promise = 23; due("parted", x.parted(5, 0), one - 1);
+        promise = 20;
     }
 
     /** A name in one register can be asked for again: runs by what the register has, at the end of so many pairs. */
@@ -1052,6 +1118,11 @@ public final class Boundaries extends Bench {
                 due("all of use", x.useless(0), 0);
             }
             x = new NameReaders();
+            for (String second : new String[] {"new", "any", "is " + (p + 1) % 3}) {
+                make(x, 0, 4, 3, 8, "0 a any keep " + (p + 1) % 3 + " to 1", "1 a " + second + " keep " + (p + 2) % 3 + " to 2", "2 b is " + p + " to 3");
+                due("register " + p + " stays EMPTY", x.useless(0), 7);
+                due("register " + p + " stays EMPTY", x.least(0), NONE);
+            }
         }
         make(x, 0, 4, 3, 8, "0 a any keep 2 to 1", "1 a is 2 keep 1 to 2", "2 a is 1 keep 0 to 3",
             "3 b is 2 to 3", "3 b is 1 to 3", "3 b is 0 to 3", "3 b new to 3");
@@ -1091,6 +1162,15 @@ public final class Boundaries extends Bench {
                 due("the first and any", x.both(), 4);
             }
         }
+        // one may keep it and may not: both ways go on
+        for (int r = 0; r < 3; r++) {
+            NameReaders x = new NameReaders();
+            make(x, 0, 3, 0, 4, "0 a any to 1", "1 b any to 2");
+            make(x, 1, 3, 3, 4, "0 a any to 1", "0 a any keep " + r + " to 1", "1 b is " + r + " to 2");
+            due("kept", x.both(), 2);
+            x.drop(1, 1);
+            due("not kept", x.both(), NONE);
+        }
     }
 
     private static void mendByEachRegister() {
@@ -1109,6 +1189,11 @@ public final class Boundaries extends Bench {
             due("the first, and the third becomes b0", x.mend(0), 2);
             row(x, "b0 b1 a2");
             due("all", x.mend(0), 3);
+            make(x, 0, 4, 3, 8, "0 a any keep " + r + " to 1", "1 b is " + r + " to 2", "2 b is " + r + " to 3");
+            row(x, "a0 c1 b0");
+            due("the second becomes b0", x.mend(0), 1);
+            row(x, "c1 b0 b0");
+            due("the first becomes a0", x.mend(0), 1);
         }
     }
 }
