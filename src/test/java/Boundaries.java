@@ -895,6 +895,14 @@ public final class Boundaries extends Bench {
         due("c0", x.fillings(0), 1);
         row(x, "?0 ?0");
         due("c0 a0", x.fillings(0), 1);
+        // a name that the row tells far ahead of the gap alone, or far behind it
+        make(x, 0, 5, 1, 16, "0 a any keep 0 to 1", "1 a any to 2", "2 a any to 3", "3 b is 0 to 4");
+        row(x, "a7 a8 a9 b?");
+        due("7", x.fillings(0), 1);
+        due("7", x.filled(0, 3), 128 + 7);
+        row(x, "a? a8 a9 b7");
+        due("7", x.fillings(0), 1);
+        due("7", x.filled(0, 0), 7);
     }
 
     private static void filled() {
