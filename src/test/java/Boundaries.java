@@ -39,6 +39,7 @@ public final class Boundaries extends Bench {
         promise = 21; registersAlike();
         promise = 22; registersOfBoth();
         promise = 26; mendByEachRegister();
+        newBehindOld();
         end();
     }
 
@@ -1202,6 +1203,29 @@ public final class Boundaries extends Bench {
             due("the second becomes b0", x.mend(0), 1);
             row(x, "c1 b0 b0");
             due("the first becomes a0", x.mend(0), 1);
+        }
+    }
+
+    /** The third name is an old one, the fourth a new one again: how many have come does not sink between. */
+    private static void newBehindOld() {
+        for (int r = 0; r < 3; r++) {
+            NameReaders x = new NameReaders();
+            make(x, 0, 5, 3, 16, "0 a any keep " + r + " to 1", "1 a new keep " + (r + 1) % 3 + " to 2", "2 a is " + r + " to 3", "3 a new to 4");
+            int[] told = {0, 1, 0, 2};
+            promise = 16; due("one alone", x.shapes(0, 4, 3), 1);
+            for (int k = 0; k < 4; k++) {
+                promise = 17; due("shape " + k, x.shape(0, 4, 3, 0, k), told[k]);
+                promise = 19; due("first " + k, x.first(0, k), told[k]);
+                promise = 23; due("parted " + k, x.parted(5, k), told[k]);
+            }
+            int[] filled = {1, 0, 1, 2};
+            row(x, "a1 a? a? a?");
+            promise = 24; due("one alone", x.fillings(0), 1);
+            for (int k = 0; k < 4; k++) {
+                promise = 25; due("filled " + k, x.filled(0, k), filled[k]);
+            }
+            row(x, "a7 a7 a7 a7");
+            promise = 26; due("the second and the last", x.mend(0), 2);
         }
     }
 }
